@@ -784,9 +784,10 @@ public final class PromiseTest {
         due("least stays", x.rule(3), 5);
         due("images stay", x.count(0), 1);
         due("stamp(15, 4)", x.stamp(15, 4), 810);
-        int good = x.rule(4);
+        due("a line before", x.line(0, 1, 0), 2);
+        long sum = x.sum(0, 1, 1);
         x.draw(6, 2);
-        due("lines are fitted anew", x.rule(4) < good ? 1 : 0, 1);
+        due("lines are fitted anew", x.sum(0, 1, 1) != sum ? 1 : 0, 1);
         for (int seed : new int[] {0, 1, -1, MIN, MAX, 1103515245}) {
             for (int n = 1; n <= 7; n++) {
                 drawnAsDue(new BeaconLines(), seed, n);
