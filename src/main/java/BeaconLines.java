@@ -1195,7 +1195,6 @@ public final class BeaconLines {
         /** Goes to the next TOKEN, or the end: whether there is one. */
         private boolean nextToken() {
             first = tape.behindRun(behind, ' ', ' ');
-            behind = first;
             if (first == tape.length) {
                 kind = END;
                 return true;

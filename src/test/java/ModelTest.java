@@ -18,6 +18,12 @@ public final class ModelTest {
             wrong += new Run(run).play() ? 0 : 1;
         }
         System.out.println("model: " + RUNS + " runs, " + wrong + " wrong");
+        int wrongEdges = 0;
+        for (int state = 0; state < Edges.STATES; state++) {
+            wrongEdges += new Edges(state).sweep();
+        }
+        System.out.println("model: every call at its edges, " + wrongEdges + " wrong");
+        wrong += wrongEdges;
         if (wrong > 0) {
             System.exit(1);
         }
@@ -202,6 +208,10 @@ public final class ModelTest {
 
         private void playText() {
             String text = someText();
+            if (calls + text.length() + 3 > CALLS) {
+                calls = CALLS;
+                return;
+            }
             for (int i = 0; i < text.length(); i++) {
                 int c = text.charAt(i);
                 same("feed(" + c + ")", x.feed(c), m.feed(c));
@@ -254,6 +264,166 @@ public final class ModelTest {
                 case 1: text.deleteCharAt(at); break;
                 case 2: text.insert(at, c); break;
                 default: text.setLength(at); break;
+            }
+        }
+    }
+
+    /** In some states every call with all mixtures of its numbers' edges, each answer beside the model's. */
+    private static final class Edges {
+        static final int STATES = 5;
+        private static final int LOW = Integer.MIN_VALUE, HIGH = Integer.MAX_VALUE;
+
+        private interface Call {
+            long of(BeaconLines x, Model m, long[] a, boolean byModel);
+        }
+
+        private final int state;
+        private BeaconLines x;
+        private Model m;
+        private int calls;
+        private int wrong;
+
+        Edges(int state) {
+            this.state = state;
+            begin();
+        }
+
+        private void begin() {
+            x = new BeaconLines();
+            m = new Model();
+            calls = 0;
+            prepare();
+        }
+
+        /** A new object; one drawn; the most clocks; one with little in common; a full tape. */
+        private void prepare() {
+            int[] clocks = {1, 3, 7, 4, 2};
+            if (state > 0) {
+                did(x.draw(state * 31, clocks[state]), m.draw(state * 31, clocks[state]));
+                did(x.keep(1), m.keep(1));
+                did(x.set(2, 40), m.set(2, 40));
+            }
+            for (int k = 0; k < state && k < 3; k++) {
+                did(x.sheet(k, k, 4 * k), m.sheet(k, k, 4 * k));
+                did(x.lay(k, 2, 9999 + state % 2), m.lay(k, 2, 9999 + state % 2));
+                did(x.lay(k, 1, -1), m.lay(k, 1, -1));
+            }
+            for (int b = 0; state == 3 && b < 12; b++) {
+                did(x.lose(b, b % 4), m.lose(b, b % 4));
+                did(x.hear(b, (b + 1) % 4, 9999 - b), m.hear(b, (b + 1) % 4, 9999 - b));
+            }
+            for (int i = 0; state == 4 && i < 300; i++) {
+                did(x.feed(' '), m.feed(' '));
+            }
+        }
+
+        private void did(long got, long want) {
+            calls++;
+            if (got != want) {
+                wrong++;
+                System.out.println("state " + state + ", preparing: " + got + ", due is " + want);
+            }
+        }
+
+        int sweep() {
+            int n = m.stamps.length;
+            long[] clocks = {LOW, -1, 0, 1, n - 1, n, 7, HIGH};
+            long[] beacons = {LOW, -1, 0, 1, 15, 16, HIGH};
+            long[] whats = {LOW, -1, 0, 1, 2, 3, 4, 5, 6, 7, 8, 9, HIGH};
+            long[] images = {LOW, -1, 0, 1, 2, HIGH};
+            long[] sheets = {LOW, -1, 0, 1, 2, 3, 4, HIGH};
+            long[] lanes = {LOW, -1, 0, 1, 2, 3, HIGH};
+            long[] times = {Long.MIN_VALUE, Long.MIN_VALUE / 2, Long.MIN_VALUE / 16, -257, -1, 0, 1, 128, 999_999,
+                Long.MAX_VALUE / 16, Long.MAX_VALUE / 2, Long.MAX_VALUE};
+            long[] stamps = {LOW, -1, 0, 1, 9999, 10000, HIGH};
+            long[] shifts = {LOW, -10000, -9999, -40, -1, 0, 1, 40, 9999, 10000, HIGH};
+            long[] cells = {LOW, -65536, -1, 0, 9999, 10000, 32767, 32768, 65535, 65536, HIGH};
+            try {
+                each("feed", (x, m, a, by) -> by ? m.feed((int) a[0]) : x.feed((int) a[0]),
+                    new long[] {LOW, -1, 0, 32, 127, 128, HIGH});
+                each("end", (x, m, a, by) -> by ? m.end((int) a[0]) : x.end((int) a[0]),
+                    new long[] {LOW, -1, 301, 300, 299, 1, 0, 1, HIGH});
+                each("text", (x, m, a, by) -> by ? m.text() : x.text());
+                each("fault", (x, m, a, by) -> by ? m.fault : x.fault());
+                each("rule", (x, m, a, by) -> by ? m.rule((int) a[0]) : x.rule((int) a[0]), whats);
+                each("count", (x, m, a, by) -> by ? m.count((int) a[0]) : x.count((int) a[0]), whats);
+                each("stamp", (x, m, a, by) -> by ? m.stamp((int) a[0], (int) a[1]) : x.stamp((int) a[0], (int) a[1]),
+                    beacons, clocks);
+                each("clock", (x, m, a, by) -> by ? m.clock((int) a[0], (int) a[1]) : x.clock((int) a[0], (int) a[1]),
+                    clocks, whats);
+                each("line", (x, m, a, by) -> by ? m.line((int) a[0], (int) a[1], (int) a[2])
+                    : x.line((int) a[0], (int) a[1], (int) a[2]), clocks, clocks, whats);
+                each("sum", (x, m, a, by) -> by ? m.sum((int) a[0], (int) a[1], (int) a[2])
+                    : x.sum((int) a[0], (int) a[1], (int) a[2]), clocks, clocks, whats);
+                each("struck", (x, m, a, by) -> by ? m.struck((int) a[0], (int) a[1], (int) a[2])
+                    : x.struck((int) a[0], (int) a[1], (int) a[2]), clocks, clocks, whats);
+                each("far", (x, m, a, by) -> by ? m.far((int) a[0], (int) a[1], (int) a[2])
+                    : x.far((int) a[0], (int) a[1], (int) a[2]), clocks, clocks, beacons);
+                each("cost", (x, m, a, by) -> by ? m.cost((int) a[0], (int) a[1]) : x.cost((int) a[0], (int) a[1]),
+                    clocks, clocks);
+                each("chain", (x, m, a, by) -> by ? m.chain((int) a[0], (int) a[1], (int) a[2])
+                    : x.chain((int) a[0], (int) a[1], (int) a[2]), clocks, clocks, whats);
+                each("taken", (x, m, a, by) -> by ? m.taken((int) a[0], (int) a[1], a[2])
+                    : x.taken((int) a[0], (int) a[1], a[2]), clocks, clocks, times);
+                each("there", (x, m, a, by) -> by ? m.there((int) a[0], (int) a[1], a[2])
+                    : x.there((int) a[0], (int) a[1], a[2]), clocks, clocks, times);
+                each("ok", (x, m, a, by) -> by ? m.ok : x.ok());
+                each("hear", (x, m, a, by) -> by ? m.hear((int) a[0], (int) a[1], (int) a[2])
+                    : x.hear((int) a[0], (int) a[1], (int) a[2]), beacons, clocks, stamps);
+                each("lose", (x, m, a, by) -> by ? m.lose((int) a[0], (int) a[1]) : x.lose((int) a[0], (int) a[1]),
+                    beacons, clocks);
+                each("shift", (x, m, a, by) -> by ? m.shift((int) a[0], (int) a[1]) : x.shift((int) a[0], (int) a[1]),
+                    clocks, shifts);
+                each("set", (x, m, a, by) -> by ? m.set((int) a[0], (int) a[1]) : x.set((int) a[0], (int) a[1]),
+                    whats, new long[] {LOW, -1, 0, 1, 2, 6, 7, 99, 100, HIGH});
+                each("draw", (x, m, a, by) -> by ? m.draw((int) a[0], (int) a[1]) : x.draw((int) a[0], (int) a[1]),
+                    new long[] {LOW, -1, 0, 1, HIGH}, whats);
+                each("keep", (x, m, a, by) -> by ? m.keep((int) a[0]) : x.keep((int) a[0]), images);
+                each("back", (x, m, a, by) -> by ? m.back((int) a[0]) : x.back((int) a[0]), images);
+                each("sheet", (x, m, a, by) -> by ? m.sheet((int) a[0], (int) a[1], (int) a[2])
+                    : x.sheet((int) a[0], (int) a[1], (int) a[2]), sheets, lanes, new long[] {LOW, -1, 0, 1, 48, 49, HIGH});
+                each("lay", (x, m, a, by) -> by ? m.lay((int) a[0], (int) a[1], (int) a[2])
+                    : x.lay((int) a[0], (int) a[1], (int) a[2]), sheets, new long[] {LOW, -1, 0, 3, 4, 7, 8, 48, HIGH}, cells);
+                each("read", (x, m, a, by) -> by ? m.read((int) a[0], (int) a[1], (int) a[2], (int) a[3], (int) a[4])
+                    : x.read((int) a[0], (int) a[1], (int) a[2], (int) a[3], (int) a[4]), sheets, lanes,
+                    new long[] {LOW, -1, 0, 1, 2, 3, 4, 8, HIGH - 1, HIGH}, clocks, new long[] {LOW, -1, 0, 1, 2, 16, 17, HIGH});
+            } catch (RuntimeException thrown) {
+                // No call may throw, whatever its numbers are.
+                wrong++;
+                System.out.println("state " + state + " threw " + thrown);
+            }
+            return wrong;
+        }
+
+        /** All mixtures, each by a counter whose figures are the places in the rows; behind each call a question. */
+        private void each(String name, Call call, long[]... rows) {
+            begin();
+            int all = 1;
+            for (long[] row : rows) {
+                all *= row.length;
+            }
+            for (int i = 0; i < all && wrong < 5; i++) {
+                if (calls > 500) {
+                    begin();
+                }
+                long[] a = new long[rows.length];
+                int rest = i;
+                for (int j = 0; j < rows.length; j++) {
+                    a[j] = rows[j][rest % rows[j].length];
+                    rest /= rows[j].length;
+                }
+                compare(name + java.util.Arrays.toString(a), call.of(x, m, a, false), call.of(x, m, a, true));
+                compare("ok() behind " + name, x.ok(), m.ok);
+                int what = i % 4;
+                compare("rule(" + what + ") behind " + name + java.util.Arrays.toString(a), x.rule(what), m.rule(what));
+            }
+        }
+
+        private void compare(String call, long got, long want) {
+            calls++;
+            if (got != want) {
+                wrong++;
+                System.out.println("state " + state + ": " + call + " answered " + got + ", due is " + want);
             }
         }
     }
