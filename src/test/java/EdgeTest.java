@@ -884,6 +884,12 @@ public final class EdgeTest {
             due("513", x.taken(0, 1, 513), 0);
             due("515", x.taken(0, 1, 515), -1);
         });
+        edge(0, "Taken by a GOOD LINE: by the POINTS that are left", x -> {
+            x.with(2, 0, 3).row(0, 0, 0, 10, 20, 30).row(1, 0, 7, 17, 33, 37);
+            due("struck", x.struck(0, 1, 0), 2);
+            due("taken", x.taken(0, 1, 20 * 256), 27 * 256);
+            due("cost", x.cost(0, 1), 1);
+        });
         edge(0, "It can not be taken, if N v is beyond 64 bits", x -> {
             // N 2, X 1, XY 0: above, A is less than N v, so that N v alone is beyond.
             x.with(2, 0, 2).row(0, 0, 0, 1).row(1, 0, 0, 0);
