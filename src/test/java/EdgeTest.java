@@ -37,7 +37,7 @@ public final class EdgeTest {
         promises23To24();
         promises25To28();
         Refused.changesNothing();
-        System.out.println("edges: " + edges + " sentences, " + answers + " answers, " + failed + " wrong");
+        System.out.println("edges: " + edges + " tests, " + answers + " answers, " + failed + " wrong");
         if (failed > 0) {
             System.exit(1);
         }
