@@ -90,6 +90,7 @@ public final class ModelTest {
         private long someTime(int r, int s) {
             switch (random.nextInt(6)) {
                 case 3: return edgeTime(r, s);
+                case 4: return halfTime(r, s);
                 case 0: return random.nextLong();
                 case 1: return random.nextLong() >> random.nextInt(64);
                 case 2: return random.nextBoolean() ? Long.MIN_VALUE : Long.MAX_VALUE;
@@ -113,6 +114,28 @@ public final class ModelTest {
                 a = a.add(f.sx.shiftLeft(8));
             }
             return a.divide(Model.big(f.n)).longValue() + random.nextInt(5) - 2;
+        }
+
+        /** Where B of the first hop is a half above a whole number of DENs, if that can be: chance alone hardly finds one. */
+        private long halfTime(int r, int s) {
+            long any = random.nextInt(256 * 10000) - 1000;
+            List<Integer> way = m.clk(r) && m.clk(s) ? m.best(r, s) : null;
+            if (way == null || way.size() < 2) {
+                return any;
+            }
+            Model.Fit f = m.fit(way.get(0), way.get(1));
+            BigInteger n = Model.big(f.n);
+            BigInteger den = n.multiply(f.xx);
+            BigInteger perStep = n.multiply(f.xy);
+            BigInteger atZero = f.sy.multiply(f.xx).subtract(f.sx.multiply(f.xy)).shiftLeft(8);
+            BigInteger wanted = den.shiftRight(1).subtract(atZero);
+            BigInteger common = perStep.gcd(den);
+            if (den.testBit(0) || wanted.mod(common).signum() != 0) {
+                return any;
+            }
+            BigInteger period = den.divide(common);
+            BigInteger v = wanted.divide(common).multiply(perStep.divide(common).modInverse(period)).mod(period);
+            return v.add(period.multiply(Model.big(random.nextInt(7) - 3))).longValue();
         }
 
         private void step() {
